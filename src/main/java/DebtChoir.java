@@ -710,7 +710,7 @@ public final class DebtChoir {
     /** The PAD: a text of ACTS, each of one to three signs. */
     private static final class Pad {
         static final int LEAST_SIGN = 33, MOST_SIGN = 126;
-        private static final int ROOM = 60;
+        static final int ROOM = 60;
         int count;
         private final int[] signs = new int[ROOM];
 
@@ -770,7 +770,7 @@ public final class DebtChoir {
 
         int faultPlace() {
             int place = 0;
-            while (place < count) {
+            for (int act = 0; act < ROOM && place < count; act++) {
                 int wrong = faultIn(place);
                 if (wrong != NONE) {
                     return wrong;
@@ -808,7 +808,7 @@ public final class DebtChoir {
                 return NO;
             }
             int place = 0;
-            while (place < pad.count) {
+            while (acts < Pad.ROOM && place < pad.count) {
                 int freeAhead = choir.freeSingers();
                 int reason = act(pad.signAt(place), pad.signAt(place + 1), pad.signAt(place + 2));
                 if (reason != 0) {

@@ -6,10 +6,21 @@ final class Due {
     void is(String what, long got, long want) {
         asked++;
         if (got != want) {
-            wrong++;
-            if (wrong <= 50) {
-                System.out.println(what + " answered " + got + ", due is " + want);
-            }
+            say(what + " answered " + got + ", due is " + want);
+        }
+    }
+
+    void same(String what, String got, String want) {
+        asked++;
+        if (!got.equals(want)) {
+            say(what + ":\n  " + got + "\n  due is\n  " + want);
+        }
+    }
+
+    private void say(String text) {
+        wrong++;
+        if (wrong <= 50) {
+            System.out.println(text);
         }
     }
 

@@ -755,14 +755,15 @@ public final class ModelTest {
         }
     }
 
+    /** Of 512 calls a run uses some 460 at most: 17, 7 times 38, and 163. */
     public static void main(String[] args) {
-        for (int run = 0; run < 400; run++) {
+        for (int run = 0; run < 900; run++) {
             DebtChoir x = new DebtChoir();
             Model y = new Model();
             for (int n = 3 + draw(14); n > 0; n--) {
                 change(x, y);
             }
-            for (int round = 0; round < 14; round++) {
+            for (int round = 0; round < 7; round++) {
                 change(x, y);
                 change(x, y);
                 write(x, y);

@@ -77,21 +77,28 @@ public final class WildTest {
         }
     }
 
+    /** An object is used for 512 calls at most: so new ones are made ever again. */
     public static void main(String[] args) {
-        DebtChoir bare = new DebtChoir();
-        DebtChoir full = full();
-        long bareSum = sum(bare);
-        long fullSum = sum(full);
+        long bareSum = sum(new DebtChoir());
+        long fullSum = sum(full());
         for (int i = 0; i < WILD.length; i++) {
             for (int j = 0; j < WILD.length; j++) {
+                DebtChoir bare = new DebtChoir();
+                DebtChoir full = full();
                 callAll(bare, i, j);
                 callAll(full, i, j);
+                DUE.is("a bare choir that was only asked", sum(bare), bareSum);
+                DUE.is("a full choir that was only asked", sum(full), fullSum);
             }
         }
-        DUE.is("a bare choir that was only asked", sum(bare), bareSum);
-        DUE.is("a full choir that was only asked", sum(full), fullSum);
         for (int i = 0; i < WILD.length; i++) {
+            DebtChoir bare = new DebtChoir();
+            DebtChoir full = full();
             for (int j = 0; j < WILD.length; j++) {
+                if (j % 8 == 0) {
+                    bare = new DebtChoir();
+                    full = full();
+                }
                 changeAll(bare, i, j);
                 callAll(bare, j, i);
                 changeAll(full, j, i);

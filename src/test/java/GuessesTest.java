@@ -26,7 +26,9 @@ public final class GuessesTest {
         fugueTenths();
         fugueTheSame();
         fugueLowestTerms();
+        fugueLater();
         fugueEightEvenings();
+        oneAfterTheOther();
         fugueNumbers();
         yearEachAct();
         yearCanNotBe();
@@ -261,6 +263,36 @@ public final class GuessesTest {
         fugueIs("above 0", new int[] {0, 1, 3, 5, 3}, 4, 5, 1);
         fugueIs("nothing is 0 by 1", new int[] {0, 8, 3, 0, 9}, 0, 1, 0);
         fugueIs("whole", new int[] {5, 1, 5, 0, 2}, -10, 1, 0);
+    }
+
+    /** "whether he borrows on the first evening": not, though he does on a later one. */
+    private static void fugueLater() {
+        // at no cost, for 1, and he never sings it off: 8 ahead of the last evening, or 9 ahead of both
+        fugueIs("7 borrows of one evening", new int[] {7, 1, 0, 1, 0}, 1, 1, 1);
+        fugueIs("7 waits, it is the same", new int[] {7, 2, 0, 1, 0}, 1, 1, 0);
+        // 1, 2; 3, 4; 5, 6; 7, 8; 9
+        fugueIs("0 borrows five times", new int[] {0, 5, 0, 1, 0}, 5, 1, 1);
+        fugueIs("0 waits for the last five", new int[] {0, 6, 0, 1, 0}, 5, 1, 0);
+        // by another program: -888463 by 100000, if he borrows
+        fugueIs("1 waits, it is better", new int[] {1, 5, 1, 4, 3}, -866853, 100000, 0);
+    }
+
+    /** The same object, asked one thing after the other: nothing is left of what was asked ahead. */
+    private static void oneAfterTheOther() {
+        DebtChoir x = new DebtChoir();
+        is("23 borrows", x.fugue(0, 1, 0, 9, 4, 1, 0), 1);
+        is("23 no evenings: does not", x.fugue(0, 0, 0, 9, 4, 1, 0), 0);
+        is("23 borrows again", x.fugue(0, 1, 0, 9, 4, 1, 0), 1);
+        is("23 no evenings: no mean", x.fugue(0, 0, 0, 9, 4, 0, 0), 0);
+        is("23 one evening", x.fugue(9, 1, 5, 9, 1, 0, 1), 2);
+        is("23 no evenings: whole", x.fugue(9, 0, 5, 9, 1, 0, 1), 1);
+        is("22 all rows", x.ask(1), 10);
+        is("19 one sight", x.seen(9, 18), 1);
+        is("22 one row", x.ask(1), 1);
+        is("21 one row", x.holds(1), NONE);
+        is("20 forgotten", x.forget(), 1);
+        is("21 all rows", x.holds(1), 1);
+        is("22 all rows again", x.ask(1), 10);
     }
 
     /** The longest, by another program. */

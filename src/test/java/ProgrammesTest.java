@@ -35,6 +35,7 @@ public final class ProgrammesTest {
         ringsOfOneself();
         ringsOfSeveral();
         ringsInRounds();
+        oneAfterTheOther();
         ringsRefused();
         DUE.end();
     }
@@ -447,7 +448,32 @@ public final class ProgrammesTest {
         ringsAre("who points into a ring is left", new int[] {1023, 123, 123, 2013}, 1023, 2);
         ringsAre("his third is the best that is left", new int[] {1023, 123, 132, 2013}, 1032, 0);
         ringsAre("his last is the best that is left", new int[] {1023, 123, 132, 123}, 1032, 0);
+        ringsAre("0 is not in the first ring", new int[] {1203, 1023, 123, 3012}, 2103, 2);
+        ringsAre("3 is not in the first ring", new int[] {123, 3012, 2013, 2103}, 321, 2);
         ringsAre("two rounds, three are left", new int[] {123, 231, 132, 2013}, 213, 2);
+    }
+
+    /** The same object, asked one thing after the other: nothing is left of what was asked ahead. */
+    private static void oneAfterTheOther() {
+        DebtChoir x = tenor(541, 1, 540);
+        x.singer(1, 2, 0);
+        x.singer(2, 2, 999);
+        x.singer(3, 3, 1);
+        int[] many = {2, 0, NONE, NONE};
+        int[] first = {1, NONE, NONE, NONE};
+        for (int i = 0; i < 16; i++) {
+            int singer = (i * 7 + i / 4) % 4;
+            is("14 nights of " + singer, x.nights(singer, 0), many[singer]);
+            is("14 first of " + singer, x.nights(singer, 1), first[singer]);
+        }
+        is("18 a ring of four", x.rings(1023, 2013, 3012, 123, 0), 1230);
+        is("18 each his own", x.rings(123, 1023, 2013, 3012, 0), 123);
+        is("18 each his own: how many", x.rings(123, 1023, 2013, 3012, 1), 4);
+        is("18 a ring of four again: how many", x.rings(1023, 2013, 3012, 123, 1), 0);
+        is("17 all seats", x.seats(6, 123456, 0), 63);
+        is("17 no seats", x.seats(0, 123456, 0), 0);
+        is("15 much", x.programme(99, 0), 541);
+        is("15 nothing", x.programme(0, 0), 0);
     }
 
     private static void ringsRefused() {

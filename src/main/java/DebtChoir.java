@@ -827,9 +827,11 @@ public final class DebtChoir {
         }
 
         private void noteFreed(int newlyFree) {
-            if (newlyFree != 0 && freeingAct == NONE) {
-                freeingAct = acts;
-                firstFreed = Integer.numberOfTrailingZeros(newlyFree);
+            for (int singer = 0; singer < SINGERS && freeingAct == NONE; singer++) {
+                if (bit(newlyFree, singer) == 1) {
+                    freeingAct = acts;
+                    firstFreed = singer;
+                }
             }
         }
 
